@@ -24,6 +24,10 @@ public final class HandingTest {
         Check.due(16, "an end", x.mayHand(11, 2), 1);
         Check.due(16, "an end", x.mayHand(8, 3), 1);
         Check.due(16, "to a land without cells", x.mayHand(0, 5), 0);
+        Check.draw(x, true, "000.", "....", "...1");
+        Check.due(16, "an end, to its own", x.mayHand(0, 0), 0);
+        Check.due(16, "of a wide sea", x.mayHand(7, 1), 0);
+        Check.due(16, "of a wide sea", x.mayHand(3, 0), 0);
         Check.draw(x, true, "1000", "0.0.", "0001");
         Check.due(16, "its only cell of two parts", x.mayHand(0, 0), 1);
         Check.due(16, "an end of the long one", x.mayHand(3, 1), 0);

@@ -90,7 +90,13 @@ public final class HeadsTest {
     }
 
     private static void dueAtItsEdges() {
-        PeopleLands x = new PeopleLands();
+        PeopleLands x = Check.mapped("000", "111");
+        Check.heads(x, 0, 0, 0, 0, 1, 0);
+        for (int way = 0; way < 3; way++) {
+            x.way(way);
+            isDue(x, "one head in all, way " + way, 0, 0, 0, 0, 6, 0);
+        }
+        x = new PeopleLands();
         Check.heads(x, 5, 5, 5, 5, 5, 5);
         for (int way = 0; way < 3; way++) {
             x.way(way);

@@ -6,6 +6,7 @@ public final class TilesTest {
         carried();
         carriedFar();
         tiles();
+        tilesOfAnotherMap();
         tilesOfLikeOnes();
         tilesAtTheirEdges();
         kept();
@@ -75,6 +76,21 @@ public final class TilesTest {
         isTiled("each its own", Check.mapped("543", "012"), 0, 3, 4, 5, 2, 1, 0);
         isTiled("each its own, no room more", Check.mapped("50", "23"), 0, 1, NONE, 2, 3, NONE, 0);
         isTiled("one without land", Check.mapped("..", ".4"), 0, NONE, NONE, NONE, NONE, 3, NONE);
+    }
+
+    private static void tilesOfAnotherMap() {
+        PeopleLands x = Check.mapped("000", "010", "000");
+        isTiled("ahead of it", x, 1, 4, 1, NONE, NONE, NONE, NONE);
+        Check.draw(x, false, "...", "..1", "220");
+        isTiled("another one", x, 1, 8, 5, 6, NONE, NONE, NONE);
+        Check.due(26, "another one", x.kept(), 1);
+        x.give(false, 8, 6);
+        isTiled("one less", x, 1, NONE, 5, 6, NONE, NONE, NONE);
+        Check.due(26, "one less", x.kept(), 0);
+        x = Check.mapped("......", "......", "......", "......", "......", ".....0");
+        isTiled("the last cell", x, 0, 35, NONE, NONE, NONE, NONE, NONE);
+        x = Check.mapped("......", "......", "......", "......", "......", "543210");
+        isTiled("the last cells", x, 0, 35, 34, 33, 32, 31, 30);
     }
 
     private static void tilesOfLikeOnes() {

@@ -9,6 +9,7 @@ public final class VotesTest {
         ahead();
         turn();
         turnByNobody();
+        turnPastTheThird();
         turnInSeveralLands();
         turnRefused();
         Check.end("VotesTest");
@@ -135,6 +136,24 @@ public final class VotesTest {
         Check.votes(x, 1, 4, 5, 2);
         Check.due(31, "9 10", x.turn(1), 1);
         Check.due(31, "9 9 1 and 1 5 5: two lands are nobody's", x.turn(2), 4);
+    }
+
+    private static void turnPastTheThird() {
+        PeopleLands x = Check.mapped("...", "...");
+        Check.draw(x, true, "000", "112");
+        Check.votes(x, 0, 1, 8, 5);
+        Check.votes(x, 1, 0, 0, 3);
+        Check.votes(x, 2, 9, 4, 0);
+        Check.due(31, "1 3 2", x.ahead(1), 1);
+        Check.due(31, "3 6 5 is the third's: 6 3 5", x.turn(0), 5);
+        Check.due(31, "1 6 7 gives it 5", x.turn(2), 2);
+        Check.draw(x, true, "001", "123");
+        Check.votes(x, 0, 0, 8, 0);
+        Check.votes(x, 1, 0, 0, 3);
+        Check.votes(x, 2, 9, 0, 0);
+        Check.votes(x, 3, 0, 6, 0);
+        Check.due(31, "1 3 2", x.ahead(1), 1);
+        Check.due(31, "as many as the third are not enough: 2 2 2 for 4, 3 1 2 for 5", x.turn(0), 5);
     }
 
     private static void turnInSeveralLands() {
