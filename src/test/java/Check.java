@@ -64,6 +64,28 @@ final class Check {
         }
     }
 
+    static void isDue(String when, PeopleLands x, int... want) {
+        for (int land = 0; land < want.length; land++) {
+            due(10, when + ": due(" + land + ")", x.due(land), want[land]);
+        }
+    }
+
+    /** The chain is of these lands, one by one; of none, there is no chain. */
+    static void isChain(String when, PeopleLands x, int... want) {
+        due(18, when + ": chain()", x.chain(), want.length == 0 ? PeopleLands.NONE : want.length);
+        for (int i = -1; i < 8; i++) {
+            int due = i >= 0 && i < want.length ? want[i] : PeopleLands.NONE;
+            due(19, when + ": link(" + i + ")", x.link(i), due);
+        }
+    }
+
+    static void isTiled(String when, PeopleLands x, int sum, int... tiles) {
+        due(24, when + ": off()", x.off(), sum);
+        for (int land = 0; land < tiles.length; land++) {
+            due(25, when + ": tile(" + land + ")", x.tile(land), tiles[land]);
+        }
+    }
+
     private static int landOf(char sign) {
         return sign >= '0' && sign <= '5' ? sign - '0' : 6;
     }

@@ -68,45 +68,45 @@ public final class HandingTest {
 
     private static void chainAndLink() {
         PeopleLands x = new PeopleLands();
-        isChain("none", x);
+        Check.isChain("none", x);
         x = Check.mapped("001122", "001122");
         x.trace();
         Check.heads(x, 1, 1, 1);
-        isChain("as due", x);
+        Check.isChain("as due", x);
         Check.heads(x, 1, 2, 3);
-        isChain("more to less by way of one as due", x, 0, 1, 2);
+        Check.isChain("more to less by way of one as due", x, 0, 1, 2);
         Check.heads(x, 3, 2, 1);
-        isChain("the other way", x, 2, 1, 0);
+        Check.isChain("the other way", x, 2, 1, 0);
         Check.heads(x, 2, 4, 0);
-        isChain("one that has less is nearer", x, 2, 1);
+        Check.isChain("one that has less is nearer", x, 2, 1);
         Check.heads(x, 1, 4, 1);
-        isChain("of like long ones the first", x, 0, 1);
+        Check.isChain("of like long ones the first", x, 0, 1);
         Check.heads(x, 4, 1, 1);
-        isChain("one that has more is nearer", x, 1, 0);
+        Check.isChain("one that has more is nearer", x, 1, 0);
         Check.heads(x, 1, 1, 0, 1);
-        isChain("none hands to a land without cells", x);
+        Check.isChain("none hands to a land without cells", x);
         Check.draw(x, true, "00.122", "00.122");
         Check.heads(x, 1, 1, 4);
-        isChain("over no sea, from one as due", x);
+        Check.isChain("over no sea, from one as due", x);
         Check.draw(x, true, "000122", "00..22");
         Check.heads(x, 2, 1, 9);
-        isChain("a single cell can not be handed on", x);
+        Check.isChain("a single cell can not be handed on", x);
         Check.due(19, "link(largest)", x.link(Integer.MAX_VALUE), PeopleLands.NONE);
         Check.due(19, "link(least)", x.link(Integer.MIN_VALUE), PeopleLands.NONE);
         x = Check.mapped("012345", "012345");
         x.trace();
         Check.heads(x, 0, 2, 2, 2, 2, 4);
-        isChain("all of the lands", x, 0, 1, 2, 3, 4, 5);
+        Check.isChain("all of the lands", x, 0, 1, 2, 3, 4, 5);
         x.hand(0, 1);
-        isChain("told of what stands now", x, 1, 2, 3, 4, 5);
+        Check.isChain("told of what stands now", x, 1, 2, 3, 4, 5);
         x.hand(7, 2);
-        isChain("told of what stands now", x, 2, 3, 4, 5);
+        Check.isChain("told of what stands now", x, 2, 3, 4, 5);
         x = Check.mapped("0000", "1123");
         x.trace();
         Check.heads(x, 100, 80, 30, 20);
-        isChain("due 3 3 1 1", x, 0, 1);
+        Check.isChain("due 3 3 1 1", x, 0, 1);
         x.way(1);
-        isChain("by the way due 4 3 1 0, but the one that has more has one cell", x);
+        Check.isChain("by the way due 4 3 1 0, but the one that has more has one cell", x);
     }
 
     private static void chainOfLikeOnes() {
@@ -115,29 +115,21 @@ public final class HandingTest {
         Check.draw(x, false, "000", "123", "123", "444");
         x.trace();
         Check.heads(x, 1, 2, 2, 2, 5);
-        isChain("of three ways the first by lands", x, 0, 1, 4);
+        Check.isChain("of three ways the first by lands", x, 0, 1, 4);
         x.give(true, 3, 6);
         x.give(false, 3, 6);
         Check.heads(x, 1, 1, 2, 2, 5);
-        isChain("0 would be cut by what 2 gets", x, 0, 3, 4);
+        Check.isChain("0 would be cut by what 2 gets", x, 0, 3, 4);
         Check.heads(x, 5, 1, 2, 2, 1);
-        isChain("the way back", x, 4, 3, 0);
+        Check.isChain("the way back", x, 4, 3, 0);
         x = Check.mapped("0033", "1122", "1122");
         x.trace();
         Check.heads(x, 1, 4, 4, 3);
-        isChain("of two that have less the one beside", x, 0, 3);
+        Check.isChain("of two that have less the one beside", x, 0, 3);
         Check.heads(x, 1, 5, 4, 2);
-        isChain("from the one beside", x, 0, 1);
+        Check.isChain("from the one beside", x, 0, 1);
         Check.heads(x, 2, 5, 4, 1);
-        isChain("of two ways over the least land", x, 3, 0, 1);
-    }
-
-    private static void isChain(String when, PeopleLands x, int... want) {
-        Check.due(18, when + ": chain()", x.chain(), want.length == 0 ? PeopleLands.NONE : want.length);
-        for (int i = -1; i < 8; i++) {
-            int due = i >= 0 && i < want.length ? want[i] : PeopleLands.NONE;
-            Check.due(19, when + ": link(" + i + ")", x.link(i), due);
-        }
+        Check.isChain("of two ways over the least land", x, 3, 0, 1);
     }
 
     private static void pass() {
@@ -159,10 +151,10 @@ public final class HandingTest {
         PeopleLands x = Check.mapped("0012", "..1.");
         x.trace();
         Check.heads(x, 1, 2, 2);
-        isChain("1 is beside 0 by the cell that it hands on", x, 0, 1, 2);
+        Check.isChain("1 is beside 0 by the cell that it hands on", x, 0, 1, 2);
         Check.due(20, "the one handed", x.pass(), 1);
         Check.isDrawn(20, "it ended there", x, true, "0022", "..1.");
-        isChain("now 2 is beside 0", x, 0, 2, 1);
+        Check.isChain("now 2 is beside 0", x, 0, 2, 1);
         Check.due(20, "the one handed back", x.pass(), 1);
         Check.isDrawn(20, "it ended there", x, true, "0012", "..1.");
     }

@@ -39,54 +39,54 @@ public final class HeadsTest {
 
     private static void dueByRests() {
         PeopleLands x = Check.mapped("00000", "11111");
-        isDue(x, "no heads", 0, 0, 0, 0, 0, 0);
+        Check.isDue("no heads", x, 0, 0, 0, 0, 0, 0);
         Check.heads(x, 47, 16, 16, 12, 6, 3);
-        isDue(x, "rests 70 60 60 20 60 30", 5, 2, 2, 1, 0, 0);
+        Check.isDue("rests 70 60 60 20 60 30", x, 5, 2, 2, 1, 0, 0);
         Check.heads(x, 1, 1, 1, 1, 1, 1);
-        isDue(x, "like rests: the least lands", 2, 2, 2, 2, 1, 1);
+        Check.isDue("like rests: the least lands", x, 2, 2, 2, 2, 1, 1);
         Check.heads(x, 0, 1, 1, 1, 0, 0);
-        isDue(x, "like rests, none without heads", 0, 4, 3, 3, 0, 0);
+        Check.isDue("like rests, none without heads", x, 0, 4, 3, 3, 0, 0);
         Check.heads(x, 0, 0, 0, 0, 0, 1);
-        isDue(x, "all to one, with no cells of its own", 0, 0, 0, 0, 0, 10);
+        Check.isDue("all to one, with no cells of its own", x, 0, 0, 0, 0, 0, 10);
         Check.heads(x, 999, 999, 999, 999, 999, 999);
-        isDue(x, "the most heads", 2, 2, 2, 2, 1, 1);
+        Check.isDue("the most heads", x, 2, 2, 2, 2, 1, 1);
         Check.heads(x, 1, 1, 1, 1, 1, 995);
-        isDue(x, "a rest of one", 0, 0, 0, 0, 0, 10);
+        Check.isDue("a rest of one", x, 0, 0, 0, 0, 0, 10);
         x.give(false, 0, 6);
-        isDue(x, "nine cells", 0, 0, 0, 0, 0, 9);
+        Check.isDue("nine cells", x, 0, 0, 0, 0, 0, 9);
         Check.draw(x, true, "55555", "55555");
-        isDue(x, "the drawing has no say", 0, 0, 0, 0, 0, 9);
+        Check.isDue("the drawing has no say", x, 0, 0, 0, 0, 0, 9);
     }
 
     private static void dueByDivisors() {
         PeopleLands x = Check.mapped("0000", "1111");
         Check.heads(x, 100, 80, 30, 20, 0, 0);
-        isDue(x, "by rests 110 180 10 160", 3, 3, 1, 1, 0, 0);
+        Check.isDue("by rests 110 180 10 160", x, 3, 3, 1, 1, 0, 0);
         x.way(1);
-        isDue(x, "by 1 2 3", 4, 3, 1, 0, 0, 0);
+        Check.isDue("by 1 2 3", x, 4, 3, 1, 0, 0, 0);
         x.way(2);
-        isDue(x, "by 1 3 5", 3, 3, 1, 1, 0, 0);
+        Check.isDue("by 1 3 5", x, 3, 3, 1, 1, 0, 0);
         x = Check.mapped("00000", "11111");
         x.way(1);
-        isDue(x, "no heads", 0, 0, 0, 0, 0, 0);
+        Check.isDue("no heads", x, 0, 0, 0, 0, 0, 0);
         Check.heads(x, 52, 24, 23);
-        isDue(x, "by 1 2 3", 6, 2, 2, 0, 0, 0);
+        Check.isDue("by 1 2 3", x, 6, 2, 2, 0, 0, 0);
         x.way(2);
-        isDue(x, "by 1 3 5", 5, 3, 2, 0, 0, 0);
+        Check.isDue("by 1 3 5", x, 5, 3, 2, 0, 0, 0);
         Check.heads(x, 0, 0, 0);
-        isDue(x, "no heads", 0, 0, 0, 0, 0, 0);
+        Check.isDue("no heads", x, 0, 0, 0, 0, 0, 0);
         Check.heads(x, 1, 1, 1, 1, 1, 1);
-        isDue(x, "like ones: the least", 2, 2, 2, 2, 1, 1);
+        Check.isDue("like ones: the least", x, 2, 2, 2, 2, 1, 1);
         x.way(1);
-        isDue(x, "like ones: the least", 2, 2, 2, 2, 1, 1);
+        Check.isDue("like ones: the least", x, 2, 2, 2, 2, 1, 1);
         Check.heads(x, 2, 4, 6, 0, 0, 0);
         x.give(false, 0, 6);
         x.give(false, 1, 6);
         x.give(false, 2, 6);
         x.give(false, 3, 6);
-        isDue(x, "6 4 3 2 2 2: of the like three the least", 1, 2, 3, 0, 0, 0);
+        Check.isDue("6 4 3 2 2 2: of the like three the least", x, 1, 2, 3, 0, 0, 0);
         x.give(false, 4, 6);
-        isDue(x, "6 4 3 2 2: of the like three the two least", 1, 2, 2, 0, 0, 0);
+        Check.isDue("6 4 3 2 2: of the like three the two least", x, 1, 2, 2, 0, 0, 0);
     }
 
     private static void dueAtItsEdges() {
@@ -94,13 +94,13 @@ public final class HeadsTest {
         Check.heads(x, 0, 0, 0, 0, 1, 0);
         for (int way = 0; way < 3; way++) {
             x.way(way);
-            isDue(x, "one head in all, way " + way, 0, 0, 0, 0, 6, 0);
+            Check.isDue("one head in all, way " + way, x, 0, 0, 0, 0, 6, 0);
         }
         x = new PeopleLands();
         Check.heads(x, 5, 5, 5, 5, 5, 5);
         for (int way = 0; way < 3; way++) {
             x.way(way);
-            isDue(x, "a map of the sea", 0, 0, 0, 0, 0, 0);
+            Check.isDue("a map of the sea", x, 0, 0, 0, 0, 0, 0);
         }
         for (int n : Check.WILD) {
             Check.due(10, "due(" + n + ")", x.due(n), PeopleLands.UNKNOWN);
@@ -109,16 +109,10 @@ public final class HeadsTest {
         x.box(false, 0, 35, 3);
         Check.heads(x, 999, 998, 0, 1, 0, 999);
         x.way(0);
-        isDue(x, "36 by rests", 12, 12, 0, 0, 0, 12);
+        Check.isDue("36 by rests", x, 12, 12, 0, 0, 0, 12);
         x.way(1);
-        isDue(x, "36 by 1 2 3", 12, 12, 0, 0, 0, 12);
+        Check.isDue("36 by 1 2 3", x, 12, 12, 0, 0, 0, 12);
         x.way(2);
-        isDue(x, "36 by 1 3 5", 12, 12, 0, 0, 0, 12);
-    }
-
-    private static void isDue(PeopleLands x, String when, int... want) {
-        for (int land = 0; land < want.length; land++) {
-            Check.due(10, when + ": due(" + land + ")", x.due(land), want[land]);
-        }
+        Check.isDue("36 by 1 3 5", x, 12, 12, 0, 0, 0, 12);
     }
 }

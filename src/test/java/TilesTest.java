@@ -68,41 +68,41 @@ public final class TilesTest {
 
     private static void tiles() {
         PeopleLands x = Check.mapped("0001", "0001", "2.21", "....");
-        isTiled("of like rows the least cell", x, 9, 1, 7, 9, NONE, NONE, NONE);
+        Check.isTiled("of like rows the least cell", x, 9, 1, 7, 9, NONE, NONE, NONE);
         Check.draw(x, true, "5555", "5555", "5555", "5555");
-        isTiled("the drawing has no say", x, 9, 1, 7, 9, NONE, NONE, NONE);
+        Check.isTiled("the drawing has no say", x, 9, 1, 7, 9, NONE, NONE, NONE);
         Check.isDrawn(25, "nothing is changed", x, false, "0001", "0001", "2.21", "....");
         Check.isDrawn(25, "nothing is changed", x, true, "5555", "5555", "5555", "5555");
-        isTiled("each its own", Check.mapped("543", "012"), 0, 3, 4, 5, 2, 1, 0);
-        isTiled("each its own, no room more", Check.mapped("50", "23"), 0, 1, NONE, 2, 3, NONE, 0);
-        isTiled("one without land", Check.mapped("..", ".4"), 0, NONE, NONE, NONE, NONE, 3, NONE);
+        Check.isTiled("each its own", Check.mapped("543", "012"), 0, 3, 4, 5, 2, 1, 0);
+        Check.isTiled("each its own, no room more", Check.mapped("50", "23"), 0, 1, NONE, 2, 3, NONE, 0);
+        Check.isTiled("one without land", Check.mapped("..", ".4"), 0, NONE, NONE, NONE, NONE, 3, NONE);
     }
 
     private static void tilesOfAnotherMap() {
         PeopleLands x = Check.mapped("000", "010", "000");
-        isTiled("ahead of it", x, 1, 4, 1, NONE, NONE, NONE, NONE);
+        Check.isTiled("ahead of it", x, 1, 4, 1, NONE, NONE, NONE, NONE);
         Check.draw(x, false, "...", "..1", "220");
-        isTiled("another one", x, 1, 8, 5, 6, NONE, NONE, NONE);
+        Check.isTiled("another one", x, 1, 8, 5, 6, NONE, NONE, NONE);
         Check.due(26, "another one", x.kept(), 1);
         x.give(false, 8, 6);
-        isTiled("one less", x, 1, NONE, 5, 6, NONE, NONE, NONE);
+        Check.isTiled("one less", x, 1, NONE, 5, 6, NONE, NONE, NONE);
         Check.due(26, "one less", x.kept(), 0);
         x = Check.mapped("......", "......", "......", "......", "......", ".....0");
-        isTiled("the last cell", x, 0, 35, NONE, NONE, NONE, NONE, NONE);
+        Check.isTiled("the last cell", x, 0, 35, NONE, NONE, NONE, NONE, NONE);
         x = Check.mapped("......", "......", "......", "......", "......", "543210");
-        isTiled("the last cells", x, 0, 35, 34, 33, 32, 31, 30);
+        Check.isTiled("the last cells", x, 0, 35, 34, 33, 32, 31, 30);
     }
 
     private static void tilesOfLikeOnes() {
-        isTiled("the small one gives way", Check.mapped("000", "010", "000"), 1, 4, 1, NONE, NONE, NONE, NONE);
-        isTiled("the small one gives way", Check.mapped("111", "101", "111"), 1, 1, 4, NONE, NONE, NONE, NONE);
-        isTiled("all alike", Check.mapped("01", "10"), 4, 0, 1, NONE, NONE, NONE, NONE);
-        isTiled("all alike", Check.mapped("53", "35"), 4, NONE, NONE, NONE, 0, NONE, 1);
-        isTiled("cells 1 and 4 are the best for each: the first may as well have 0",
+        Check.isTiled("the small one gives way", Check.mapped("000", "010", "000"), 1, 4, 1, NONE, NONE, NONE, NONE);
+        Check.isTiled("the small one gives way", Check.mapped("111", "101", "111"), 1, 1, 4, NONE, NONE, NONE, NONE);
+        Check.isTiled("all alike", Check.mapped("01", "10"), 4, 0, 1, NONE, NONE, NONE, NONE);
+        Check.isTiled("all alike", Check.mapped("53", "35"), 4, NONE, NONE, NONE, 0, NONE, 1);
+        Check.isTiled("cells 1 and 4 are the best for each: the first may as well have 0",
                 Check.mapped("012", "210"), 7, 0, 1, 4, NONE, NONE, NONE);
-        isTiled("in the middle of the largest", Check.mapped("333333", "333333", "333333", "333333", "333333", "333333"),
+        Check.isTiled("in the middle of the largest", Check.mapped("333333", "333333", "333333", "333333", "333333", "333333"),
                 648, NONE, NONE, NONE, 14, NONE, NONE);
-        isTiled("all six are best at 14, 15, 20, 21, by 72 more at what lies beside",
+        Check.isTiled("all six are best at 14, 15, 20, 21, by 72 more at what lies beside",
                 Check.mapped("012345", "543210", "012345", "543210", "012345", "543210"),
                 tilesOfSixRows(), 8, 9, 14, 15, 20, 21);
     }
@@ -114,9 +114,9 @@ public final class TilesTest {
 
     private static void tilesAtTheirEdges() {
         PeopleLands x = new PeopleLands();
-        isTiled("no land has cells", x, 0, NONE, NONE, NONE, NONE, NONE, NONE);
+        Check.isTiled("no land has cells", x, 0, NONE, NONE, NONE, NONE, NONE, NONE);
         x.box(true, 0, 15, 1);
-        isTiled("no land has cells in the map", x, 0, NONE, NONE, NONE, NONE, NONE, NONE);
+        Check.isTiled("no land has cells in the map", x, 0, NONE, NONE, NONE, NONE, NONE, NONE);
         for (int n : Check.WILD) {
             Check.due(25, "tile(" + n + ")", x.tile(n), PeopleLands.UNKNOWN);
         }
@@ -129,12 +129,5 @@ public final class TilesTest {
         Check.due(26, "two of three", Check.mapped("012", "210").kept(), 2);
         Check.due(26, "tiles beside one another, but no neighbours", Check.mapped("0.0", ".1.", "...").kept(), 0);
         Check.due(26, "one", Check.mapped("000", "010", "000").kept(), 1);
-    }
-
-    private static void isTiled(String when, PeopleLands x, int sum, int... tiles) {
-        Check.due(24, when + ": off()", x.off(), sum);
-        for (int land = 0; land < tiles.length; land++) {
-            Check.due(25, when + ": tile(" + land + ")", x.tile(land), tiles[land]);
-        }
     }
 }
