@@ -63,6 +63,9 @@ public final class VotesEdgesTest {
         x.give(false, 0, 0);
         x.give(true, 10, 0);
         Check.due(23, "not around the column's end", x.carried(0), 5);
+        x = Check.mapped("..0", "...", "..0");
+        Check.draw(x, true, ".0.", "0..", "...");
+        Check.due(23, "the last cell to the last one, 1 and 3, not 3 and 3", x.carried(0), 4);
     }
 
     private static void carriedEmptyAndFull() {
@@ -116,6 +119,8 @@ public final class VotesEdgesTest {
         areTiled("six on six", Check.mapped("54", "32", "10"), 0, 7, 5, 4, 3, 2, 1, 0);
         areTiled("four on four, two of them the same middle",
                 Check.mapped("01", "10"), 4, 1, 0, 1, NONE, NONE, NONE, NONE);
+        areTiled("both are best at 3 and beside it: the last cell is the later one's",
+                Check.mapped(".1", "02", "12"), 2, 2, 2, 3, 5, NONE, NONE, NONE);
         PeopleLands x = Scene.full().make();
         areTiled("six columns: off by half a cell", x, 6 * 9, 5, 12, 13, 14, 15, 16, 17);
     }
