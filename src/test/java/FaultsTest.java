@@ -7,6 +7,7 @@ public final class FaultsTest {
         would();
         mend();
         mendOfLikeOnes();
+        mendsMost();
         Check.end("FaultsTest");
     }
 
@@ -152,5 +153,30 @@ public final class FaultsTest {
         x.trace();
         Check.due(15, "nobody: cells go to none, the least first", x.mend(), 6);
         Check.due(15, "then the next", x.mend(), 16);
+        x = Check.mapped("1.", "..");
+        Check.heads(x, 0, 0, 1);
+        x.trace();
+        Check.due(15, "0 to none is as good as 3 to land 2", x.would(0, 6), 1);
+        Check.due(15, "0 to none is as good as 3 to land 2", x.would(3, 2), 1);
+        Check.due(15, "of like ones the least cell, whoever gets it", x.mend(), 6);
+        Check.due(15, "now the least cell to the one due", x.mend(), 2);
+        Check.due(15, "no fewer", x.mend(), PeopleLands.NONE);
+        x = Check.mapped("12", "..");
+        Check.heads(x, 0, 0, 0, 1, 1);
+        Check.due(15, "of the least cell the least land", x.mend(), 3);
+    }
+
+    /** A change that mends little comes first by cells, one that mends more comes later. */
+    private static void mendsMost() {
+        PeopleLands x = Check.mapped("...", "111", "...");
+        Check.heads(x, 0, 1);
+        Check.draw(x, true, "0..", "...", "1.1");
+        Check.due(15, "one that is due none, two parts, one cell off", x.faults(), 1 + 3 + 1);
+        Check.due(15, "to none: one fewer", x.would(0, 6), 4);
+        Check.due(15, "the parts become one: four fewer", x.would(7, 1), 1);
+        Check.due(15, "that by which they are fewest", x.mend(), 71);
+        Check.due(15, "then the other one", x.mend(), 6);
+        Check.due(15, "no faults", x.faults(), 0);
+        Check.due(15, "no fewer", x.mend(), PeopleLands.NONE);
     }
 }

@@ -5,6 +5,7 @@ public final class HandingTest {
         hand();
         chainAndLink();
         chainOfLikeOnes();
+        chainThatIsShortest();
         pass();
         passThatEnds();
         settle();
@@ -132,6 +133,37 @@ public final class HandingTest {
         Check.isChain("of two ways over the least land", x, 3, 0, 1);
     }
 
+    private static void chainThatIsShortest() {
+        PeopleLands x = Check.mapped("011223", "011223");
+        x.trace();
+        Check.heads(x, 1, 4, 6, 1);
+        Check.isChain("0 has more too, but its chain is longer", x, 3, 2);
+        Check.heads(x, 1, 6, 4, 1);
+        Check.isChain("3 has more too, but its chain is longer", x, 0, 1);
+        Check.heads(x, 1, 5, 5, 1);
+        Check.isChain("two as short: the first", x, 0, 1);
+        Check.heads(x, 3, 4, 2, 3);
+        Check.isChain("0 has less too, but the way there is longer", x, 2, 3);
+        Check.heads(x, 3, 3, 3, 3);
+        Check.isChain("two as short: the first by the one that hands", x, 1, 0);
+        x = Check.mapped("221100", "221133");
+        x.trace();
+        Check.heads(x, 3, 1, 5, 3);
+        Check.isChain("three as short, of one that hands: the least that gets", x, 1, 0);
+        Check.heads(x, 2, 2, 5, 3);
+        Check.isChain("two of them: the least that gets", x, 1, 2);
+        x = Check.mapped("003112", "003112");
+        x.trace();
+        Check.heads(x, 1, 1, 1, 1);
+        Check.isChain("the first by the one that hands, not by the one that gets", x, 0, 3);
+        x = Check.mapped("001122", "001122");
+        x.trace();
+        Check.heads(x, 3, 8, 1);
+        Check.isChain("2 has three more than it is due, but 0 is the first", x, 0, 1);
+        Check.heads(x, 5, 1, 6);
+        Check.isChain("2 has two less than it is due, but 0 is the first", x, 1, 0);
+    }
+
     private static void pass() {
         PeopleLands x = new PeopleLands();
         Check.due(20, "none", x.pass(), PeopleLands.STATE);
@@ -157,6 +189,13 @@ public final class HandingTest {
         Check.isChain("now 2 is beside 0", x, 0, 2, 1);
         Check.due(20, "the one handed back", x.pass(), 1);
         Check.isDrawn(20, "it ended there", x, true, "0012", "..1.");
+        x = Check.mapped("330012", "....1.");
+        x.trace();
+        Check.heads(x, 2, 2, 2, 1);
+        Check.isChain("1 is beside 0 by the cell that it hands on", x, 3, 0, 1, 2);
+        Check.due(20, "0 may not, and 3 is asked no more", x.pass(), 1);
+        Check.isDrawn(20, "it ended there", x, true, "330022", "....1.");
+        Check.due(20, "3 might have", x.mayHand(1, 0), 1);
     }
 
     private static void settle() {

@@ -105,6 +105,22 @@ public final class TilesTest {
         Check.isTiled("all six are best at 14, 15, 20, 21, by 72 more at what lies beside",
                 Check.mapped("012345", "543210", "012345", "543210", "012345", "543210"),
                 tilesOfSixRows(), 8, 9, 14, 15, 20, 21);
+        tilesLandByLand();
+    }
+
+    /**
+     * The two wide lands take 16 and 17, so the one at 17 has to go: to 10 or 22 by 2, or to the
+     * cell of one that lies above or below by 1, which goes by 1 in turn.
+     */
+    private static void tilesLandByLand() {
+        Check.isTiled("the first has one less, though the second has 13 more than it could",
+                Check.mapped("....23", ".....5", ".....1", ".....0", "....23"), 2, 22, 23, 16, 17, NONE, 11);
+        Check.isTiled("likewise among the last lands",
+                Check.mapped("....01", ".....5", ".....4", ".....3", "....01"), 2, 16, 17, NONE, 22, 23, 11);
+        Check.isTiled("the one above comes first: up to 5, not 10 or 11",
+                Check.mapped("....23", ".....0", ".....1", ".....5", "....23"), 2, 5, 11, 16, 17, NONE, 23);
+        Check.isTiled("the one in the middle comes first: the least of 10, 11, 22, 23",
+                Check.mapped("....23", ".....1", ".....0", ".....5", "....23"), 2, 10, 11, 16, 17, NONE, 23);
     }
 
     /** Each land has 6 cells, all x 15, all y 15: 18 on the four in the middle, 9 and 81 beside them. */
