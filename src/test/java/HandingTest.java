@@ -162,6 +162,10 @@ public final class HandingTest {
         Check.isChain("2 has three more than it is due, but 0 is the first", x, 0, 1);
         Check.heads(x, 5, 1, 6);
         Check.isChain("2 has two less than it is due, but 0 is the first", x, 1, 0);
+        x = Check.mapped("4433", "1122", "1122", "0000");
+        x.trace();
+        Check.heads(x, 2, 4, 4, 3, 3);
+        Check.isChain("one by one: 0 1 4 comes ahead of 0 2 3", x, 0, 1, 4);
     }
 
     private static void pass() {
